@@ -350,6 +350,7 @@ public final class PromiseTest {
         due("8: resultPairs(15)", q.resultPairs(15), 1);
         due("8: resultLeast(15)", q.resultLeast(15), 0);
         due("8: resultKey(16)", q.resultKey(16), -1);
+        due("20: bandSum(3) with all 16 results", q.bandSum(3), 0);
     }
 
     private static void promises9To13OfAResult() {
@@ -407,7 +408,7 @@ public final class PromiseTest {
         due("11: resultSum(1)", q.resultSum(1), 64);
     }
 
-    /** Key 0 with pairs of both signs, key 15 with one stream alone, 40 on each stream for key 8. */
+    /** Both streams full, with key 8 alone. */
     private static PunctuatedQuery full() {
         PunctuatedQuery q = new PunctuatedQuery();
         for (int n = 0; n < 40; n++) {
@@ -417,6 +418,7 @@ public final class PromiseTest {
         return q;
     }
 
+    /** Key 0 with products of both signs and 0, key 1 with one pair, keys 14 and 15 on one stream alone. */
     private static PunctuatedQuery mixed() {
         return fed(new int[][] {{0, 0, -4}, {0, 0, 3}, {1, 0, 5}, {1, 0, -2}, {1, 0, 0}, {0, 15, 6}, {1, 14, 6}, {0, 1, -3}, {1, 1, 7}});
     }
@@ -453,6 +455,8 @@ public final class PromiseTest {
         due("16: a key on stream 1 alone", q.least(14), 10000);
         due("16: the least product", full().least(8), -2500);
         due("16: all products above 0", fed(new int[][] {{0, 2, 50}, {1, 2, 50}}).least(2), 2500);
+        due("16: retract of the least tuple", q.retract(0, 1, -3), 3);
+        due("16: a tuple taken back counts no more", q.least(1), 10000);
         for (int key : BAD_KEYS) {
             due("16: least(" + key + ")", q.least(key), 10000);
         }
@@ -469,6 +473,8 @@ public final class PromiseTest {
         due("17: a key on stream 1 alone", q.greatest(14), -10000);
         due("17: all products the least", full().greatest(8), -2500);
         due("17: the greatest product", fed(new int[][] {{0, 2, -50}, {1, 2, -50}}).greatest(2), 2500);
+        due("17: retract of the only tuple", q.retract(1, 1, 7), 4);
+        due("17: a tuple taken back counts no more", q.greatest(1), -10000);
         for (int key : BAD_KEYS) {
             due("17: greatest(" + key + ")", q.greatest(key), -10000);
         }
