@@ -23,7 +23,7 @@ public final class BoundaryTest {
     private static final String[] BAD_VALUES = {"-51", "51", "MIN", "MAX"};
     private static final String[] BAD_BANDS = {"-1", "4", "MIN", "MAX"};
 
-    private static int sentences = 0;
+    private static int entries = 0;
     private static int wrong = 0;
     private static String sentence = "";
 
@@ -62,7 +62,7 @@ public final class BoundaryTest {
         promise18PairsFrom();
         promise19BandsFinished();
         promise20BandSum();
-        System.out.println(sentences + " sentences, " + (wrong == 0 ? "all answers are as due" : wrong + " answers are not as due"));
+        System.out.println(entries + " sentences or single cases of one, " + (wrong == 0 ? "all answers are as due" : wrong + " answers are not as due"));
         if (wrong != 0) {
             System.exit(1);
         }
@@ -155,10 +155,10 @@ public final class BoundaryTest {
         }
     }
 
-    /** The sentence that the runs below it are for. */
+    /** The sentence that the runs below it are for; brackets name the one case of it that they show. */
     private static void sentence(String words) {
         sentence = words;
-        sentences++;
+        entries++;
     }
 
     private static Run run(String rows) {
