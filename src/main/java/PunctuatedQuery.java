@@ -245,6 +245,11 @@ public final class PunctuatedQuery {
     }
 
     private void putResult(int key) {
+        // There is always room, since a key is finished only once; the index is looked at
+        // all the same, as LANGUAGE.md asks, so that no call can throw.
+        if (resultCount >= KEYS) {
+            return;
+        }
         keyOfResult[resultCount] = key;
         pairsOfResult[resultCount] = countPairs(key);
         sumOfResult[resultCount] = sumOfProducts(key);
